@@ -1,0 +1,102 @@
+import java.util.function.Consumer;
+import java.util.function.Supplier;
+
+/** What the tests share: it counts the answers that are not due, and tells the state of an object as a text. */
+final class Checks {
+    private static int wrong = 0;
+    private static int made = 0;
+
+    private Checks() {
+    }
+
+    static void due(String call, Object got, Object want) {
+        made++;
+        if (!got.equals(want)) {
+            wrong++;
+            System.out.println(call + " answered " + got + ", due is " + want);
+        }
+    }
+
+    /** The call must throw exactly this exception, and the object must be as one without the call. */
+    static void refused(String call, Class<?> want, Supplier<Boreplan> shop, Consumer<Boreplan> act) {
+        Boreplan tried = shop.get();
+        due(call, thrownBy(() -> act.accept(tried)), want.getSimpleName());
+        due("the state behind " + call, state(tried), state(shop.get()));
+    }
+
+    static String thrownBy(Runnable act) {
+        try {
+            act.run();
+            return "nothing";
+        } catch (RuntimeException e) {
+            return e.getClass().getSimpleName();
+        }
+    }
+
+    /** Everything that an object answers; it is spent by it, for set-ups, magazines and breakdowns are asked by changing them. */
+    static String state(Boreplan plan) {
+        StringBuilder text = new StringBuilder();
+        text.append("span ").append(plan.span()).append(" path");
+        for (int i = 0; i < plan.criticals(); i++) {
+            text.append(' ').append(plan.criticalAt(i));
+        }
+        for (int m = 0; m < 4; m++) {
+            machine(text, plan, m);
+        }
+        for (int j = 0; j < 8; j++) {
+            job(text, plan, j);
+        }
+        text.append("\nset-ups");
+        for (int i = 0; i < 16; i++) {
+            text.append(' ').append(plan.setSetup(i / 4, i % 4, 0));
+        }
+        for (int m = 0; m < 4; m++) {
+            int machine = m;
+            text.append(thrownBy(() -> text.append(plan.repair(machine) ? " broken " : " whole ")));
+        }
+        return text.toString();
+    }
+
+    private static void machine(StringBuilder text, Boreplan plan, int m) {
+        try {
+            int placed = plan.placed(m);
+            text.append("\nmachine ").append(m).append(':');
+            for (int i = 0; i < placed; i++) {
+                text.append(' ').append(plan.placedAt(m, i));
+            }
+            text.append(" setups ").append(plan.setups(m)).append(" loads ").append(plan.loads(m));
+            text.append(" capacity ").append(plan.setMagazine(m, 8));
+        } catch (IndexOutOfBoundsException e) {
+            text.append(" no machine ").append(m);
+        }
+    }
+
+    private static void job(StringBuilder text, Boreplan plan, int j) {
+        try {
+            text.append("\njob ").append(j).append(" late ").append(plan.lateness(j)).append(':');
+        } catch (IndexOutOfBoundsException e) {
+            text.append(" none");
+            return;
+        } catch (IllegalStateException e) {
+            text.append(" not placed");
+        }
+        for (int i = 0; i < 4; i++) {
+            try {
+                text.append(' ').append(plan.startOf(j, i)).append('/').append(plan.startByRounds(j, i));
+                text.append('/').append(plan.slack(j, i));
+            } catch (IllegalStateException e) {
+                text.append(" waiting");
+            } catch (IndexOutOfBoundsException e) {
+                text.append(" end");
+                return;
+            }
+        }
+    }
+
+    static void end() {
+        System.out.println(wrong == 0 ? made + " answers are as due" : wrong + " answers are not as due");
+        if (wrong != 0) {
+            System.exit(1);
+        }
+    }
+}
