@@ -17,27 +17,23 @@ public final class Boreplan {
     private static final int MOST_LENGTH = 200;
     private static final int MOST_SETUP = 60;
     private static final int LAST_MINUTE = 10000;
+    /** Later than any operation can start or finish. */
+    private static final int NEVER = 1000000;
 
-    private final ArrayList<Machine> machines;
-    private final ArrayList<Job> jobs;
-    private final Setups table;
-    private final Timetable times;
+    private final Shop shop;
 
     public Boreplan() {
-        machines = new ArrayList<Machine>();
-        jobs = new ArrayList<Job>();
-        table = new Setups();
-        times = new Timetable(machines, jobs, table);
+        shop = new Shop();
     }
 
     // ---- machines, jobs, set-ups
 
     public int addMachine() throws IllegalStateException {
-        if (machines.size() >= MOST_MACHINES) {
+        if (shop.machines.size() >= MOST_MACHINES) {
             throw new IllegalStateException("there are 4 machines");
         }
-        machines.add(new Machine());
-        return machines.size() - 1;
+        shop.machines.add(new Machine());
+        return shop.machines.size() - 1;
     }
 
     public int setMagazine(int machine, int capacity)
@@ -65,15 +61,15 @@ public final class Boreplan {
         known.broken = true;
         known.brokenFrom = from;
         known.brokenTo = to;
-        times.timeAll();
-        return times.span;
+        shop.timeAll();
+        return shop.span;
     }
 
     public boolean repair(int machine) throws IndexOutOfBoundsException {
         Machine known = knownMachine(machine);
         boolean before = known.broken;
         known.broken = false;
-        times.timeAll();
+        shop.timeAll();
         return before;
     }
 
@@ -81,11 +77,11 @@ public final class Boreplan {
         if (due < 0 || due > LAST_MINUTE) {
             throw new IllegalArgumentException("due is out of range");
         }
-        if (jobs.size() >= MOST_JOBS) {
+        if (shop.jobs.size() >= MOST_JOBS) {
             throw new IllegalStateException("there are 8 jobs");
         }
-        jobs.add(new Job(jobs.size(), due));
-        return jobs.size() - 1;
+        shop.jobs.add(new Job(shop.jobs.size(), due));
+        return shop.jobs.size() - 1;
     }
 
     public int addOperation(int job, int machine, int length, int family, int tools)
@@ -121,9 +117,9 @@ public final class Boreplan {
         if (minutes < 0 || minutes > MOST_SETUP) {
             throw new IllegalArgumentException("minutes is out of range");
         }
-        int before = table.minutes[family][other];
-        table.minutes[family][other] = minutes;
-        times.timeAll();
+        int before = shop.table.minutes[family][other];
+        shop.table.minutes[family][other] = minutes;
+        shop.timeAll();
         return before;
     }
 
@@ -136,28 +132,28 @@ public final class Boreplan {
             operation.machine.insert(operation, operation.machine.row.size());
         }
         waiting.isPlaced = true;
-        times.timeAll();
-        return times.span;
+        shop.timeAll();
+        return shop.span;
     }
 
     public int rush(int job) throws IndexOutOfBoundsException, IllegalStateException {
         Job waiting = waitingJob(job);
         for (int i = 0; i < waiting.operations.size(); i++) {
-            insertAtBestPlace(waiting.operations.get(i));
+            shop.insertAtBestPlace(waiting.operations.get(i));
         }
         waiting.isPlaced = true;
-        times.timeAll();
-        return times.span;
+        shop.timeAll();
+        return shop.span;
     }
 
     public int remove(int job) throws IndexOutOfBoundsException, IllegalStateException {
         Job placedJob = placedJob(job);
-        for (int i = 0; i < machines.size(); i++) {
-            machines.get(i).takeOutAllOf(placedJob);
+        for (int i = 0; i < shop.machines.size(); i++) {
+            shop.machines.get(i).takeOutAllOf(placedJob);
         }
         placedJob.isPlaced = false;
-        times.timeAll();
-        return times.span;
+        shop.timeAll();
+        return shop.span;
     }
 
     public int swap(int machine, int place) throws IndexOutOfBoundsException, IllegalStateException {
@@ -166,12 +162,12 @@ public final class Boreplan {
             throw new IndexOutOfBoundsException("no such place or none behind it");
         }
         known.exchange(place);
-        if (!times.timeAll()) {
+        if (!shop.timeAll()) {
             known.exchange(place);
-            times.timeAll();
+            shop.timeAll();
             throw new IllegalStateException("the order would have a way round");
         }
-        return times.span;
+        return shop.span;
     }
 
     public int placed(int machine) throws IndexOutOfBoundsException {
@@ -194,7 +190,7 @@ public final class Boreplan {
 
     public int startByRounds(int job, int operation) throws IndexOutOfBoundsException, IllegalStateException {
         Operation known = placedOperation(job, operation);
-        times.putLaterInRounds();
+        shop.putLaterInRounds();
         return known.startInRounds;
     }
 
@@ -209,30 +205,30 @@ public final class Boreplan {
     }
 
     public int span() {
-        return times.span;
+        return shop.span;
     }
 
     public int slack(int job, int operation) throws IndexOutOfBoundsException, IllegalStateException {
         Operation known = placedOperation(job, operation);
-        times.findLatestStarts();
+        shop.findLatestStarts();
         return known.latestStart - known.start;
     }
 
     public int criticals() {
-        times.findPath();
-        return times.path.size();
+        shop.findPath();
+        return shop.path.size();
     }
 
     public int criticalAt(int place) throws IndexOutOfBoundsException {
-        times.findPath();
-        if (place < 0 || place >= times.path.size()) {
+        shop.findPath();
+        if (place < 0 || place >= shop.path.size()) {
             throw new IndexOutOfBoundsException("no such place");
         }
-        return times.path.get(times.path.size() - 1 - place).code();
+        return shop.path.get(shop.path.size() - 1 - place).code();
     }
 
     public int setups(int machine) throws IndexOutOfBoundsException {
-        return table.sumOf(knownMachine(machine));
+        return shop.table.sumOf(knownMachine(machine));
     }
 
     public int loads(int machine) throws IndexOutOfBoundsException {
@@ -242,17 +238,17 @@ public final class Boreplan {
     // ---- what the calls share
 
     private Machine knownMachine(int machine) {
-        if (machine < 0 || machine >= machines.size()) {
+        if (machine < 0 || machine >= shop.machines.size()) {
             throw new IndexOutOfBoundsException("no such machine");
         }
-        return machines.get(machine);
+        return shop.machines.get(machine);
     }
 
     private Job knownJob(int job) {
-        if (job < 0 || job >= jobs.size()) {
+        if (job < 0 || job >= shop.jobs.size()) {
             throw new IndexOutOfBoundsException("no such job");
         }
-        return jobs.get(job);
+        return shop.jobs.get(job);
     }
 
     private Job placedJob(int job) {
@@ -284,27 +280,6 @@ public final class Boreplan {
             throw new IllegalStateException("the job is not placed");
         }
         return known.operations.get(operation);
-    }
-
-    /** Leaves the times of the last trial behind: the caller times anew. */
-    private void insertAtBestPlace(Operation operation) {
-        Machine machine = operation.machine;
-        int last = machine.row.size();
-        // nothing of its job is placed behind it yet, so that the last place never makes a way round
-        int best = last;
-        int leastSpan = Integer.MAX_VALUE;
-        int leastStart = Integer.MAX_VALUE;
-        for (int place = 0; place <= last; place++) {
-            machine.insert(operation, place);
-            if (times.timeAll() && (times.span < leastSpan
-                    || times.span == leastSpan && operation.start < leastStart)) {
-                best = place;
-                leastSpan = times.span;
-                leastStart = operation.start;
-            }
-            machine.takeOut(place);
-        }
-        machine.insert(operation, best);
     }
 
     /** A step of a job. It knows the ones next to it in its job and on its machine, null where there is none. */
@@ -491,8 +466,8 @@ public final class Boreplan {
         }
     }
 
-    /** The times that follow from the rows of the machines. */
-    private static final class Timetable {
+    /** The machines and jobs, and the times that follow from the rows of the machines. */
+    private static final class Shop {
         final ArrayList<Machine> machines;
         final ArrayList<Job> jobs;
         final Setups table;
@@ -502,12 +477,32 @@ public final class Boreplan {
         final ArrayList<Operation> path;
         int span;
 
-        Timetable(ArrayList<Machine> machines, ArrayList<Job> jobs, Setups table) {
-            this.machines = machines;
-            this.jobs = jobs;
-            this.table = table;
+        Shop() {
+            machines = new ArrayList<Machine>();
+            jobs = new ArrayList<Job>();
+            table = new Setups();
             order = new ArrayList<Operation>();
             path = new ArrayList<Operation>();
+        }
+
+        /** Leaves the times of the last trial behind: the caller times anew. */
+        void insertAtBestPlace(Operation operation) {
+            Machine machine = operation.machine;
+            int last = machine.row.size();
+            // nothing of its job is placed behind it yet, so that the last place never makes a way round
+            int best = last;
+            int leastSpan = NEVER;
+            int leastStart = NEVER;
+            for (int place = 0; place <= last; place++) {
+                machine.insert(operation, place);
+                if (timeAll() && (span < leastSpan || span == leastSpan && operation.start < leastStart)) {
+                    best = place;
+                    leastSpan = span;
+                    leastStart = operation.start;
+                }
+                machine.takeOut(place);
+            }
+            machine.insert(operation, best);
         }
 
         /** Gives one operation after the other its times; false if the order has a way round. */
@@ -576,7 +571,9 @@ public final class Boreplan {
             for (int round = 0; moved && round <= MOST_PLACED; round++) {
                 moved = false;
                 for (int i = 0; i < machines.size(); i++) {
-                    moved |= putRowLater(machines.get(i));
+                    if (putRowLater(machines.get(i))) {
+                        moved = true;
+                    }
                 }
             }
         }

@@ -29,11 +29,18 @@ final class Checks {
             act.run();
             return "nothing";
         } catch (RuntimeException e) {
-            return e.getClass().getSimpleName();
+            return nameOf(e);
         }
     }
 
-    /** Everything that an object answers; it is spent by it, for set-ups, magazines and breakdowns are asked by changing them. */
+    /** Its simple name, marked if a throw statement of the program is not where it comes from. */
+    static String nameOf(RuntimeException e) {
+        StackTraceElement[] trace = e.getStackTrace();
+        boolean own = trace.length > 0 && "Boreplan.java".equals(trace[0].getFileName());
+        return e.getClass().getSimpleName() + (own ? "" : " that the program does not throw itself");
+    }
+
+    /** Everything that an object answers. The object is spent then: set-ups and the like are asked by changing them. */
     static String state(Boreplan plan) {
         StringBuilder text = new StringBuilder();
         text.append("span ").append(plan.span()).append(" path");

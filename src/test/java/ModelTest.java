@@ -96,7 +96,7 @@ public final class ModelTest {
         try {
             return called(plan, call, a);
         } catch (RuntimeException e) {
-            return e.getClass().getSimpleName();
+            return Checks.nameOf(e);
         }
     }
 

@@ -55,6 +55,7 @@ public final class SetupsAndLoadsTest {
         Checks.due("the second one is needed sooner", tools(2, 1, 2, 4, 2, 1).loads(0), 4);
         Checks.due("one is needed never again", tools(2, 1, 2, 4, 2, 4, 2).loads(0), 3);
         Checks.due("the other one never again", tools(2, 2, 1, 4, 2, 4, 2).loads(0), 3);
+        Checks.due("needed sooner, but not at once", tools(2, 1, 2, 4, 0, 1).loads(0), 3);
         Checks.due("with sets", tools(3, 3, 5, 24, 192, 7).loads(0), 9);
     }
 
