@@ -43,15 +43,17 @@ final class Checks {
     /** Everything that an object answers. The object is spent then: set-ups and the like are asked by changing them. */
     static String state(Boreplan plan) {
         StringBuilder text = new StringBuilder();
-        text.append("span ").append(plan.span()).append(" path");
-        for (int i = 0; i < plan.criticals(); i++) {
-            text.append(' ').append(plan.criticalAt(i));
-        }
+        text.append("span ").append(plan.span()).append(" path ").append(path(plan));
         for (int m = 0; m < 4; m++) {
             machine(text, plan, m);
         }
         for (int j = 0; j < 8; j++) {
             job(text, plan, j);
+        }
+        text.append("\nspan with all jobs");
+        for (int j = 0; j < 8; j++) {
+            int job = j;
+            text.append(' ').append(thrownBy(() -> text.append(plan.place(job))));
         }
         text.append("\nset-ups");
         for (int i = 0; i < 16; i++) {
@@ -64,13 +66,27 @@ final class Checks {
         return text.toString();
     }
 
+    /** The operations of a machine. */
+    static String row(Boreplan plan, int machine) {
+        StringBuilder text = new StringBuilder();
+        for (int i = 0; i < plan.placed(machine); i++) {
+            text.append(i == 0 ? "" : " ").append(plan.placedAt(machine, i));
+        }
+        return text.toString();
+    }
+
+    /** The operations of the critical path. */
+    static String path(Boreplan plan) {
+        StringBuilder text = new StringBuilder();
+        for (int i = 0; i < plan.criticals(); i++) {
+            text.append(i == 0 ? "" : " ").append(plan.criticalAt(i));
+        }
+        return text.toString();
+    }
+
     private static void machine(StringBuilder text, Boreplan plan, int m) {
         try {
-            int placed = plan.placed(m);
-            text.append("\nmachine ").append(m).append(':');
-            for (int i = 0; i < placed; i++) {
-                text.append(' ').append(plan.placedAt(m, i));
-            }
+            text.append("\nmachine ").append(m).append(": ").append(row(plan, m));
             text.append(" setups ").append(plan.setups(m)).append(" loads ").append(plan.loads(m));
             text.append(" capacity ").append(plan.setMagazine(m, 8));
         } catch (IndexOutOfBoundsException e) {

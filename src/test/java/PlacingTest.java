@@ -1,45 +1,31 @@
 /** Promises 9 to 14: place, rush, remove, swap, placed, placedAt. */
 public final class PlacingTest {
-    private static final Class<?> INDEX = IndexOutOfBoundsException.class;
-    private static final Class<?> STATE = IllegalStateException.class;
-
     public static void main(String[] args) {
         place();
         rushTakesTheLeastSpan();
         rushTakesTheLeastStartThen();
         rushTakesTheFirstPlaceThen();
         rushKeepsTheOrderOfAJob();
-        rushGoesNoWayRound();
         rushLooksNoStepAhead();
-        placingRefuses();
         remove();
         swap();
-        swapRefuses();
         placedAndPlacedAt();
         Checks.end();
-    }
-
-    private static String row(Boreplan plan, int machine) {
-        StringBuilder text = new StringBuilder();
-        for (int i = 0; i < plan.placed(machine); i++) {
-            text.append(i == 0 ? "" : " ").append(plan.placedAt(machine, i));
-        }
-        return text.toString();
     }
 
     private static void place() {
         Boreplan plan = Shops.waiting();
         Checks.due("place(1)", plan.place(1), 11);
         Checks.due("place(0)", plan.place(0), 22);
-        Checks.due("row 0", row(plan, 0), "11 0");
-        Checks.due("row 1", row(plan, 1), "10 1");
+        Checks.due("row 0", Checks.row(plan, 0), "11 0");
+        Checks.due("row 1", Checks.row(plan, 1), "10 1");
         Boreplan same = Shops.machines(1);
         same.addJob(0);
         same.addOperation(0, 0, 3, 0, 0);
         same.addOperation(0, 0, 2, 0, 0);
         same.addOperation(0, 0, 4, 0, 0);
         Checks.due("a job on one machine", same.place(0), 9);
-        Checks.due("its row", row(same, 0), "0 1 2");
+        Checks.due("its row", Checks.row(same, 0), "0 1 2");
     }
 
     /** The set-ups make the middle of the row the best place. */
@@ -60,7 +46,7 @@ public final class PlacingTest {
         plan.addJob(0);
         plan.addOperation(3, 0, 5, 1, 0);
         Checks.due("rush(3)", plan.rush(3), 40);
-        Checks.due("its row", row(plan, 0), "0 30 10 20");
+        Checks.due("its row", Checks.row(plan, 0), "0 30 10 20");
     }
 
     /** Machine 1 decides the span; a set-up makes the first place on machine 0 start later than the second one. */
@@ -78,7 +64,7 @@ public final class PlacingTest {
         plan.place(1);
         plan.place(2);
         Checks.due("rush(3)", plan.rush(3), 100);
-        Checks.due("its row", row(plan, 0), "10 30 20");
+        Checks.due("its row", Checks.row(plan, 0), "10 30 20");
         Checks.due("startOf(3, 0)", plan.startOf(3, 0), 2);
     }
 
@@ -96,7 +82,7 @@ public final class PlacingTest {
         plan.place(1);
         plan.place(2);
         Checks.due("rush(3)", plan.rush(3), 100);
-        Checks.due("its row", row(plan, 0), "31 10 20");
+        Checks.due("its row", Checks.row(plan, 0), "31 10 20");
         Checks.due("startOf(3, 1)", plan.startOf(3, 1), 20);
         Checks.due("startOf(1, 0)", plan.startOf(1, 0), 27);
     }
@@ -107,23 +93,7 @@ public final class PlacingTest {
         plan.addOperation(1, 0, 3, 0, 0);
         plan.addOperation(1, 0, 2, 0, 0);
         Checks.due("rush(1)", plan.rush(1), 10);
-        Checks.due("its row", row(plan, 0), "10 11 0");
-    }
-
-    /** A set-up puts job 1 behind job 0 on machine 1, so that it can not come ahead of it on machine 0. */
-    private static void rushGoesNoWayRound() {
-        Boreplan plan = Shops.machines(2);
-        plan.setSetup(1, 0, 60);
-        plan.addJob(0);
-        plan.addOperation(0, 0, 30, 0, 0);
-        plan.addOperation(0, 1, 5, 0, 0);
-        plan.place(0);
-        plan.addJob(0);
-        plan.addOperation(1, 1, 9, 1, 0);
-        plan.addOperation(1, 0, 9, 0, 0);
-        Checks.due("rush(1)", plan.rush(1), 53);
-        Checks.due("row 0", row(plan, 0), "0 11");
-        Checks.due("row 1", row(plan, 1), "1 10");
+        Checks.due("its row", Checks.row(plan, 0), "10 11 0");
     }
 
     /** The first operation goes where the span so far is least, though 45 could be reached by way of another place. */
@@ -137,30 +107,15 @@ public final class PlacingTest {
         plan.addOperation(1, 0, 5, 0, 0);
         plan.addOperation(1, 1, 30, 0, 0);
         Checks.due("rush(1)", plan.rush(1), 50);
-        Checks.due("row 0", row(plan, 0), "0 10");
-        Checks.due("row 1", row(plan, 1), "1 11");
-    }
-
-    private static void placingRefuses() {
-        Checks.refused("place(-1)", INDEX, Shops::placed, p -> p.place(-1));
-        Checks.refused("place(3) of 3", INDEX, Shops::placed, p -> p.place(3));
-        Checks.refused("place of a placed job", STATE, Shops::placed, p -> p.place(0));
-        Checks.refused("place without operations", STATE, Shops::placed, p -> p.place(2));
-        Checks.refused("rush(-1)", INDEX, Shops::placed, p -> p.rush(-1));
-        Checks.refused("rush(3) of 3", INDEX, Shops::placed, p -> p.rush(3));
-        Checks.refused("rush of a placed job", STATE, Shops::placed, p -> p.rush(1));
-        Checks.refused("rush without operations", STATE, Shops::placed, p -> p.rush(2));
-        Checks.refused("remove(-1)", INDEX, Shops::placed, p -> p.remove(-1));
-        Checks.refused("remove(3) of 3", INDEX, Shops::placed, p -> p.remove(3));
-        Checks.refused("remove of a waiting job", STATE, Shops::waiting, p -> p.remove(0));
-        Checks.refused("remove without operations", STATE, Shops::placed, p -> p.remove(2));
+        Checks.due("row 0", Checks.row(plan, 0), "0 10");
+        Checks.due("row 1", Checks.row(plan, 1), "1 11");
     }
 
     private static void remove() {
         Boreplan plan = Shops.placed();
         Checks.due("remove(0)", plan.remove(0), 11);
-        Checks.due("row 0", row(plan, 0), "11");
-        Checks.due("row 1", row(plan, 1), "10");
+        Checks.due("row 0", Checks.row(plan, 0), "11");
+        Checks.due("row 1", Checks.row(plan, 1), "10");
         Checks.due("startOf(1, 0)", plan.startOf(1, 0), 0);
         Checks.due("remove(1)", plan.remove(1), 0);
         Checks.due("criticals()", plan.criticals(), 0);
@@ -174,49 +129,28 @@ public final class PlacingTest {
             twice.place(job);
         }
         twice.swap(0, 1);
-        Checks.due("mixed", row(twice, 0), "0 10 1 11");
+        Checks.due("mixed", Checks.row(twice, 0), "0 10 1 11");
         Checks.due("remove(0)", twice.remove(0), 7);
-        Checks.due("left over", row(twice, 0), "10 11");
+        Checks.due("left over", Checks.row(twice, 0), "10 11");
     }
 
     private static void swap() {
         Boreplan plan = Shops.row(3, 4, 5);
         plan.setSetup(0, 0, 1);
         Checks.due("swap(0, 0)", plan.swap(0, 0), 15);
-        Checks.due("its row", row(plan, 0), "10 0 20");
+        Checks.due("its row", Checks.row(plan, 0), "10 0 20");
         Checks.due("startOf(0, 0)", plan.startOf(0, 0), 6);
         Checks.due("swap(0, 1)", plan.swap(0, 1), 15);
-        Checks.due("its row", row(plan, 0), "10 20 0");
+        Checks.due("its row", Checks.row(plan, 0), "10 20 0");
         Boreplan two = crossed();
         Checks.due("swap(0, 0)", two.swap(0, 0), 19);
         Checks.due("swap(1, 0) then", two.swap(1, 0), 25);
-    }
-
-    private static void swapRefuses() {
-        Checks.refused("machine -1", INDEX, Shops::placed, p -> p.swap(-1, 0));
-        Checks.refused("machine 2 of 2", INDEX, Shops::placed, p -> p.swap(2, 0));
-        Checks.refused("place -1", INDEX, Shops::placed, p -> p.swap(0, -1));
-        Checks.refused("the last place", INDEX, Shops::placed, p -> p.swap(0, 1));
-        Checks.refused("no such place", INDEX, Shops::placed, p -> p.swap(0, 2));
-        Checks.refused("the greatest place", INDEX, Shops::placed, p -> p.swap(0, Integer.MAX_VALUE));
-        Checks.refused("an empty machine", INDEX, Shops::waiting, p -> p.swap(0, 0));
-        Checks.refused("across two machines", STATE, PlacingTest::crossed, p -> p.swap(1, 0));
-        Checks.refused("in one job", STATE, PlacingTest::oneJob, p -> p.swap(0, 0));
     }
 
     /** Job 0 goes from machine 0 to machine 1, job 1 the other way, and job 1 comes first on both. */
     private static Boreplan crossed() {
         Boreplan plan = Shops.waiting();
         plan.place(1);
-        plan.place(0);
-        return plan;
-    }
-
-    private static Boreplan oneJob() {
-        Boreplan plan = Shops.machines(1);
-        plan.addJob(0);
-        plan.addOperation(0, 0, 3, 0, 0);
-        plan.addOperation(0, 0, 2, 0, 0);
         plan.place(0);
         return plan;
     }
@@ -228,12 +162,6 @@ public final class PlacingTest {
         Checks.due("placedAt(0, 1)", plan.placedAt(0, 1), 11);
         Checks.due("placedAt(1, 0)", plan.placedAt(1, 0), 1);
         Checks.due("placedAt(1, 1)", plan.placedAt(1, 1), 10);
-        Checks.refused("placed(-1)", INDEX, Shops::placed, p -> p.placed(-1));
-        Checks.refused("placed(2)", INDEX, Shops::placed, p -> p.placed(2));
-        Checks.refused("placedAt(-1, 0)", INDEX, Shops::placed, p -> p.placedAt(-1, 0));
-        Checks.refused("placedAt(2, 0)", INDEX, Shops::placed, p -> p.placedAt(2, 0));
-        Checks.refused("placedAt(0, -1)", INDEX, Shops::placed, p -> p.placedAt(0, -1));
-        Checks.refused("placedAt(0, 2)", INDEX, Shops::placed, p -> p.placedAt(0, 2));
         fullMachine();
     }
 

@@ -1,17 +1,11 @@
 /** Promises 22 and 23: setups, loads. */
 public final class SetupsAndLoadsTest {
-    private static final Class<?> INDEX = IndexOutOfBoundsException.class;
-
     public static void main(String[] args) {
         setups();
         loads();
         loadsKeepWhatIsNeededSoonest();
         loadsFollowTheMagazine();
         loadsFollowTheRow();
-        Checks.refused("setups(-1)", INDEX, Shops::placed, p -> p.setups(-1));
-        Checks.refused("setups(2)", INDEX, Shops::placed, p -> p.setups(2));
-        Checks.refused("loads(-1)", INDEX, Shops::placed, p -> p.loads(-1));
-        Checks.refused("loads(2)", INDEX, Shops::placed, p -> p.loads(2));
         Checks.end();
     }
 

@@ -1,34 +1,14 @@
 /** Promises 19 to 21: slack, criticals, criticalAt. */
 public final class SlackAndPathTest {
-    private static final Class<?> INDEX = IndexOutOfBoundsException.class;
-    private static final Class<?> STATE = IllegalStateException.class;
-
     public static void main(String[] args) {
         slackOfJobsAndMachines();
         slackWithSetups();
         slackWithABreakdown();
-        slackRefuses();
         pathOfPlaced();
         pathEndsWithTheLowestJob();
         pathGoesByTheJobFirst();
         pathBegins();
-        criticalAtRefuses();
         Checks.end();
-    }
-
-    private static String path(Boreplan plan) {
-        StringBuilder text = new StringBuilder();
-        for (int i = 0; i < plan.criticals(); i++) {
-            text.append(i == 0 ? "" : " ").append(plan.criticalAt(i));
-        }
-        return text.toString();
-    }
-
-    /** One operation of a length on a machine, placed as a job of its own. */
-    private static void single(Boreplan plan, int machine, int length, int family) {
-        int job = plan.addJob(0);
-        plan.addOperation(job, machine, length, family, 0);
-        plan.place(job);
     }
 
     private static void slackOfJobsAndMachines() {
@@ -37,8 +17,8 @@ public final class SlackAndPathTest {
         plan.addOperation(0, 0, 5, 0, 0);
         plan.addOperation(0, 1, 6, 0, 0);
         plan.place(0);
-        single(plan, 0, 3, 0);
-        single(plan, 1, 10, 0);
+        Shops.single(plan, 0, 3, 0);
+        Shops.single(plan, 1, 10, 0);
         Checks.due("span()", plan.span(), 21);
         Checks.due("slack(0, 0)", plan.slack(0, 0), 0);
         Checks.due("slack(0, 1)", plan.slack(0, 1), 0);
@@ -48,7 +28,7 @@ public final class SlackAndPathTest {
         Checks.due("span()", plan.span(), 16);
         Checks.due("slack(0, 0) bound by its job", plan.slack(0, 0), 5);
         Checks.due("slack(1, 0) bound by the span", plan.slack(1, 0), 8);
-        single(plan, 0, 8, 0);
+        Shops.single(plan, 0, 8, 0);
         Checks.due("slack(1, 0) bound by its machine", plan.slack(1, 0), 0);
         Checks.due("slack(0, 0) bound by its machine", plan.slack(0, 0), 0);
     }
@@ -57,9 +37,9 @@ public final class SlackAndPathTest {
         Boreplan plan = Shops.machines(2);
         plan.setSetup(0, 1, 4);
         plan.setSetup(1, 0, 7);
-        single(plan, 0, 5, 0);
-        single(plan, 0, 5, 1);
-        single(plan, 1, 20, 0);
+        Shops.single(plan, 0, 5, 0);
+        Shops.single(plan, 0, 5, 1);
+        Shops.single(plan, 1, 20, 0);
         Checks.due("startOf(1, 0)", plan.startOf(1, 0), 9);
         Checks.due("slack(1, 0)", plan.slack(1, 0), 6);
         Checks.due("slack(0, 0)", plan.slack(0, 0), 6);
@@ -69,8 +49,8 @@ public final class SlackAndPathTest {
 
     private static void slackWithABreakdown() {
         Boreplan plan = Shops.machines(2);
-        single(plan, 0, 5, 0);
-        single(plan, 1, 20, 0);
+        Shops.single(plan, 0, 5, 0);
+        Shops.single(plan, 1, 20, 0);
         Checks.due("slack(0, 0)", plan.slack(0, 0), 15);
         plan.breakdown(0, 17, 18);
         Checks.due("it must be over at 17", plan.slack(0, 0), 12);
@@ -86,19 +66,10 @@ public final class SlackAndPathTest {
         Checks.due("behind it the span is its own", plan.slack(0, 0), 0);
     }
 
-    private static void slackRefuses() {
-        Checks.refused("slack job -1", INDEX, Shops::placed, p -> p.slack(-1, 0));
-        Checks.refused("slack job 3", INDEX, Shops::placed, p -> p.slack(3, 0));
-        Checks.refused("slack operation -1", INDEX, Shops::placed, p -> p.slack(0, -1));
-        Checks.refused("slack operation 2", INDEX, Shops::placed, p -> p.slack(0, 2));
-        Checks.refused("slack operation ahead of placed", INDEX, Shops::waiting, p -> p.slack(0, 2));
-        Checks.refused("slack of a waiting job", STATE, Shops::waiting, p -> p.slack(0, 0));
-    }
-
     private static void pathOfPlaced() {
         Boreplan plan = Shops.placed();
         Checks.due("criticals()", plan.criticals(), 4);
-        Checks.due("the path", path(plan), "0 1 10 11");
+        Checks.due("the path", Checks.path(plan), "0 1 10 11");
         Checks.due("nothing placed", Shops.waiting().criticals(), 0);
     }
 
@@ -113,44 +84,38 @@ public final class SlackAndPathTest {
         plan.place(2);
         plan.place(1);
         plan.place(0);
-        Checks.due("the path", path(plan), "10");
+        Checks.due("the path", Checks.path(plan), "10");
         plan.remove(1);
-        Checks.due("a removed job has none", path(plan), "20");
+        Checks.due("a removed job has none", Checks.path(plan), "20");
     }
 
     /** Both the one ahead in the job and the one ahead on the machine finish at the start. */
     private static void pathGoesByTheJobFirst() {
         Boreplan plan = Shops.machines(2);
-        single(plan, 1, 5, 0);
+        Shops.single(plan, 1, 5, 0);
         plan.addJob(0);
         plan.addOperation(1, 0, 5, 0, 0);
         plan.addOperation(1, 1, 5, 0, 0);
         plan.place(1);
-        Checks.due("by the job", path(plan), "10 11");
+        Checks.due("by the job", Checks.path(plan), "10 11");
         plan.setSetup(0, 0, 1);
-        Checks.due("by the machine, with a set-up", path(plan), "0 11");
+        Checks.due("by the machine, with a set-up", Checks.path(plan), "0 11");
         plan.setSetup(0, 0, 0);
         plan.breakdown(0, 100, 101);
-        Checks.due("by the job again", path(plan), "10 11");
+        Checks.due("by the job again", Checks.path(plan), "10 11");
     }
 
     private static void pathBegins() {
         Boreplan plan = Shops.row(5, 5, 5);
-        Checks.due("all on a machine", path(plan), "0 10 20");
+        Checks.due("all on a machine", Checks.path(plan), "0 10 20");
         plan.breakdown(0, 5, 7);
-        Checks.due("behind a breakdown", path(plan), "10 20");
+        Checks.due("behind a breakdown", Checks.path(plan), "10 20");
         plan.breakdown(0, 4, 5);
-        Checks.due("behind a breakdown at once", path(plan), "0 10 20");
+        Checks.due("behind a breakdown at once", Checks.path(plan), "0 10 20");
         plan.breakdown(0, 12, 20);
-        Checks.due("behind a late breakdown", path(plan), "20");
+        Checks.due("behind a late breakdown", Checks.path(plan), "20");
         plan.repair(0);
         plan.setSetup(0, 0, 2);
-        Checks.due("with set-ups", path(plan), "0 10 20");
-    }
-
-    private static void criticalAtRefuses() {
-        Checks.refused("criticalAt(-1)", INDEX, Shops::placed, p -> p.criticalAt(-1));
-        Checks.refused("criticalAt(4) of 4", INDEX, Shops::placed, p -> p.criticalAt(4));
-        Checks.refused("criticalAt(0) of none", INDEX, Shops::waiting, p -> p.criticalAt(0));
+        Checks.due("with set-ups", Checks.path(plan), "0 10 20");
     }
 }

@@ -1,14 +1,10 @@
 /** Promises 15 to 18: startOf, startByRounds, lateness, span. */
 public final class TimesTest {
-    private static final Class<?> INDEX = IndexOutOfBoundsException.class;
-    private static final Class<?> STATE = IllegalStateException.class;
-
     public static void main(String[] args) {
         starts();
         startsWaitForJobAndMachine();
         startsWithSetups();
         startsWithABreakdown();
-        startsRefuse();
         lateness();
         span();
         Checks.end();
@@ -84,21 +80,6 @@ public final class TimesTest {
         bothStarts(plan, 1, 0, 4);
     }
 
-    private static void startsRefuse() {
-        Checks.refused("startOf job -1", INDEX, Shops::placed, p -> p.startOf(-1, 0));
-        Checks.refused("startOf job 3", INDEX, Shops::placed, p -> p.startOf(3, 0));
-        Checks.refused("startOf operation -1", INDEX, Shops::placed, p -> p.startOf(0, -1));
-        Checks.refused("startOf operation 2", INDEX, Shops::placed, p -> p.startOf(0, 2));
-        Checks.refused("startOf operation ahead of placed", INDEX, Shops::waiting, p -> p.startOf(0, 2));
-        Checks.refused("startOf a waiting job", STATE, Shops::waiting, p -> p.startOf(0, 0));
-        Checks.refused("startByRounds job -1", INDEX, Shops::placed, p -> p.startByRounds(-1, 0));
-        Checks.refused("startByRounds job 3", INDEX, Shops::placed, p -> p.startByRounds(3, 0));
-        Checks.refused("startByRounds operation -1", INDEX, Shops::placed, p -> p.startByRounds(0, -1));
-        Checks.refused("startByRounds operation 2", INDEX, Shops::placed, p -> p.startByRounds(0, 2));
-        Checks.refused("startByRounds operation first", INDEX, Shops::waiting, p -> p.startByRounds(0, 2));
-        Checks.refused("startByRounds a waiting job", STATE, Shops::waiting, p -> p.startByRounds(0, 0));
-    }
-
     private static void lateness() {
         Boreplan plan = Shops.placed();
         Checks.due("ahead of the due minute", plan.lateness(0), 0);
@@ -112,10 +93,6 @@ public final class TimesTest {
         }
         Checks.due("at the due minute", exact.lateness(0), 0);
         Checks.due("a minute late", exact.lateness(1), 1);
-        Checks.refused("lateness(-1)", INDEX, Shops::placed, p -> p.lateness(-1));
-        Checks.refused("lateness(3)", INDEX, Shops::placed, p -> p.lateness(3));
-        Checks.refused("lateness of a waiting job", STATE, Shops::waiting, p -> p.lateness(0));
-        Checks.refused("lateness without operations", STATE, Shops::placed, p -> p.lateness(2));
     }
 
     private static void span() {
