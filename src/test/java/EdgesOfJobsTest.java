@@ -12,12 +12,15 @@ public final class EdgesOfJobsTest {
         dueInRange();
         jobWithoutOperations();
         numberOfAJob();
+        dueOutOfRange();
         noNinthJob();
         operationAtTheEnd();
         lengthInRange();
         familyInRange();
         toolsInRange();
+        numberOfAnOperation();
         addOperationToNoJobOrMachine();
+        lengthFamilyOrToolsOutOfRange();
         noFifthOperation();
         noOperationOfAPlacedJob();
         noMoreToolsThanTheCapacity();
@@ -25,6 +28,7 @@ public final class EdgesOfJobsTest {
         setupToItself();
         setupBefore();
         setSetupOfNoFamily();
+        minutesOutOfRange();
         Checks.end();
     }
 
@@ -143,9 +147,8 @@ public final class EdgesOfJobsTest {
         }
     }
 
-    /** Promise 6: "- `due`: 0 to 10000" and "Throws `IllegalArgumentException` if due is out of range" */
+    /** Promise 6: "- `due`: 0 to 10000" */
     private static void dueInRange() {
-        Edges.range("due", 0, 10000, Edges.ARGUMENT, Shops::placed, (p, due) -> p.addJob(due));
         for (int length = 1; length <= 3; length++) {
             Boreplan plan = Shops.machines(1);
             plan.addJob(10000);
@@ -158,6 +161,14 @@ public final class EdgesOfJobsTest {
             plan.place(1);
             Checks.due("due 0", plan.lateness(1), 9999 + length);
         }
+        for (int due : new int[] {-1, 10001}) {
+            Checks.due("due " + due, Checks.thrownBy(() -> new Boreplan().addJob(due)), "IllegalArgumentException");
+        }
+    }
+
+    /** Promise 6: "Throws `IllegalArgumentException` if due is out of range" */
+    private static void dueOutOfRange() {
+        Edges.range("due", 0, 10000, Edges.ARGUMENT, Shops::placed, (p, due) -> p.addJob(due));
     }
 
     /** Promise 6: "Adds a job without operations." */
@@ -181,12 +192,11 @@ public final class EdgesOfJobsTest {
         Checks.refused("the ninth job", Edges.STATE, () -> Shops.jobs(1, 8), p -> p.addJob(0));
     }
 
-    /** Promise 7: "Adds an operation at the end of a job." and "Returns its number." */
+    /** Promise 7: "Adds an operation at the end of a job." */
     private static void operationAtTheEnd() {
-        Boreplan plan = Shops.jobs(4, 2);
+        Boreplan plan = Shops.jobs(4, 1);
         for (int number = 0; number < 4; number++) {
-            Checks.due("addOperation to job 0", plan.addOperation(0, 3 - number, 1, 0, 0), number);
-            Checks.due("addOperation to job 1", plan.addOperation(1, number, 1, 0, 0), number);
+            plan.addOperation(0, 3 - number, 1, 0, 0);
         }
         plan.place(0);
         for (int number = 0; number < 4; number++) {
@@ -195,34 +205,62 @@ public final class EdgesOfJobsTest {
         }
     }
 
-    /** Promise 7: "- `length`: 1 to 200", and "Throws `IllegalArgumentException` if length, ... is out of range" */
+    /** Promise 7: "- `length`: 1 to 200" */
     private static void lengthInRange() {
-        Edges.range("length", 1, 200, Edges.ARGUMENT, () -> operations(1),
-                (p, length) -> p.addOperation(0, 0, length, 0, 0));
         for (int length : new int[] {1, 2, 199, 200}) {
             Checks.due("span() by the length", Shops.row(length).span(), length);
         }
+        for (int length : new int[] {0, 201}) {
+            Checks.due("length " + length, Checks.thrownBy(() -> operations(0).addOperation(0, 0, length, 0, 0)),
+                    "IllegalArgumentException");
+        }
     }
 
-    /** Promise 7: "- `family`: 0 to 3", and "Throws `IllegalArgumentException` if ... family ... is out of range" */
+    /** Promise 7: "- `family`: 0 to 3" */
     private static void familyInRange() {
-        Edges.range("family", 0, 3, Edges.ARGUMENT, () -> operations(1),
-                (p, family) -> p.addOperation(0, 0, 1, family, 0));
+        for (int family = 0; family < 4; family++) {
+            Boreplan plan = operations(0);
+            plan.setSetup(0, family, 10 + family);
+            plan.addOperation(0, 0, 1, family, 0);
+            Checks.due("span() by the family", plan.place(0), 11 + family);
+        }
+        for (int family : new int[] {-1, 4}) {
+            Checks.due("family " + family, Checks.thrownBy(() -> operations(0).addOperation(0, 0, 1, family, 0)),
+                    "IllegalArgumentException");
+        }
     }
 
-    /**
-     * Promise 7: "- `tools`: the sum of 2 to the power of the tool over the tools that it needs, 0 to 255", and
-     * "Throws `IllegalArgumentException` if ... tools is out of range"
-     */
+    /** Promise 7: "- `tools`: the sum of 2 to the power of the tool over the tools that it needs, 0 to 255" */
     private static void toolsInRange() {
-        Edges.range("tools", 0, 255, Edges.ARGUMENT, () -> operations(1),
-                (p, tools) -> p.addOperation(0, 0, 1, 0, tools));
         for (int tools = 0; tools < 256; tools++) {
             Boreplan plan = operations(0);
             plan.addOperation(0, 0, 1, 0, tools);
             plan.place(0);
             Checks.due("loads(0) of " + tools, plan.loads(0), Integer.bitCount(tools));
         }
+        for (int tools : new int[] {-1, 256}) {
+            Checks.due("tools " + tools, Checks.thrownBy(() -> operations(0).addOperation(0, 0, 1, 0, tools)),
+                    "IllegalArgumentException");
+        }
+    }
+
+    /** Promise 7: "Returns its number." */
+    private static void numberOfAnOperation() {
+        Boreplan plan = Shops.jobs(4, 2);
+        for (int number = 0; number < 4; number++) {
+            Checks.due("addOperation to job 0", plan.addOperation(0, 3 - number, 1, 0, 0), number);
+            Checks.due("addOperation to job 1", plan.addOperation(1, number, 1, 0, 0), number);
+        }
+    }
+
+    /** Promise 7: "Throws `IllegalArgumentException` if length, family or tools is out of range" */
+    private static void lengthFamilyOrToolsOutOfRange() {
+        Edges.range("length", 1, 200, Edges.ARGUMENT, () -> operations(1),
+                (p, length) -> p.addOperation(0, 0, length, 0, 0));
+        Edges.range("family", 0, 3, Edges.ARGUMENT, () -> operations(1),
+                (p, family) -> p.addOperation(0, 0, 1, family, 0));
+        Edges.range("tools", 0, 255, Edges.ARGUMENT, () -> operations(1),
+                (p, tools) -> p.addOperation(0, 0, 1, 0, tools));
     }
 
     /** Promise 7: "Throws `IndexOutOfBoundsException` if there is no such job or machine" */
@@ -273,17 +311,16 @@ public final class EdgesOfJobsTest {
         return plan;
     }
 
-    /** Promise 8: "- `minutes`: 0 to 60" and "Throws `IllegalArgumentException` if minutes is out of range" */
+    /** Promise 8: "- `minutes`: 0 to 60" */
     private static void minutesInRange() {
-        for (int count = 0; count < 16; count++) {
-            int pair = count;
-            Edges.range("minutes", 0, 60, Edges.ARGUMENT, Shops::placed,
-                    (p, minutes) -> p.setSetup(pair / 4, pair % 4, minutes));
-        }
         for (int minutes : new int[] {0, 1, 59, 60}) {
             Boreplan plan = Shops.row(5, 5);
             plan.setSetup(0, 0, minutes);
             Checks.due("span() with set-ups", plan.span(), 10 + 2 * minutes);
+        }
+        for (int minutes : new int[] {-1, 61}) {
+            Checks.due("minutes " + minutes, Checks.thrownBy(() -> new Boreplan().setSetup(0, 0, minutes)),
+                    "IllegalArgumentException");
         }
     }
 
@@ -318,5 +355,14 @@ public final class EdgesOfJobsTest {
         Edges.range("other", 0, 3, Edges.INDEX, Shops::placed, (p, other) -> p.setSetup(0, other, 1));
         Edges.range("family to 3", 0, 3, Edges.INDEX, Shops::placed, (p, family) -> p.setSetup(family, 3, 1));
         Edges.range("other from 3", 0, 3, Edges.INDEX, Shops::placed, (p, other) -> p.setSetup(3, other, 1));
+    }
+
+    /** Promise 8: "Throws `IllegalArgumentException` if minutes is out of range" */
+    private static void minutesOutOfRange() {
+        for (int count = 0; count < 16; count++) {
+            int pair = count;
+            Edges.range("minutes", 0, 60, Edges.ARGUMENT, Shops::placed,
+                    (p, minutes) -> p.setSetup(pair / 4, pair % 4, minutes));
+        }
     }
 }

@@ -12,13 +12,16 @@ public final class EdgesOfMachinesTest {
         capacityFromOneToEight();
         capacityBefore();
         setMagazineOfNoMachine();
+        capacityOutOfRange();
         magazineTooSmallForAnOperation();
         magazineTooSmallForSomeJob();
-        fromInRange();
-        toInRange();
+        fromFirstMinuteOn();
+        toBehindTheLastMinute();
+        fromOrToOutOfRange();
         breakdownInPlaceOfTheOneBefore();
         spanWithABreakdown();
         breakdownOfNoMachine();
+        repairTakesBack();
         repairOnlyIfThereWasOne();
         repairOfNoMachine();
         Checks.end();
@@ -102,9 +105,8 @@ public final class EdgesOfMachinesTest {
         Checks.refused("the fifth machine", Edges.STATE, () -> Shops.machines(4), p -> p.addMachine());
     }
 
-    /** Promise 3: "- `capacity`: 1 to 8" and "Throws `IllegalArgumentException` if capacity is out of range" */
+    /** Promise 3: "- `capacity`: 1 to 8"; each of these is the greatest number of tools then, 0 and 9 never are. */
     private static void capacityFromOneToEight() {
-        Edges.range("capacity", 1, 8, Edges.ARGUMENT, () -> Shops.machines(2), (p, c) -> p.setMagazine(1, c));
         for (int capacity = 1; capacity <= 8; capacity++) {
             int tools = (1 << capacity) - 1;
             Boreplan plan = Shops.jobs(1, 1);
@@ -114,6 +116,12 @@ public final class EdgesOfMachinesTest {
             String answer = Checks.thrownBy(() -> plan.addOperation(0, 0, 1, 0, 2 * tools + 1));
             Checks.due("one more than " + capacity, answer,
                     capacity == 8 ? "IllegalArgumentException" : "IllegalStateException");
+        }
+        for (int capacity : new int[] {0, 9}) {
+            Boreplan plan = Shops.jobs(1, 1);
+            Checks.due("capacity " + capacity, Checks.thrownBy(() -> plan.setMagazine(0, capacity)),
+                    "IllegalArgumentException");
+            Checks.due("four tools as before", plan.addOperation(0, 0, 1, 0, 0b1111), 0);
         }
     }
 
@@ -126,6 +134,11 @@ public final class EdgesOfMachinesTest {
         Checks.thrownBy(() -> plan.setMagazine(1, 9));
         Checks.due("behind one that was refused", plan.setMagazine(1, 2), 1);
         Checks.due("the other machine", plan.setMagazine(0, 2), 4);
+    }
+
+    /** Promise 3: "Throws `IllegalArgumentException` if capacity is out of range" */
+    private static void capacityOutOfRange() {
+        Edges.range("capacity", 1, 8, Edges.ARGUMENT, () -> Shops.machines(2), (p, c) -> p.setMagazine(1, c));
     }
 
     /** Promise 3: "Throws `IndexOutOfBoundsException` if there is no such machine" */
@@ -198,34 +211,37 @@ public final class EdgesOfMachinesTest {
         return plan;
     }
 
-    /**
-     * Promise 4: "- `from`: 0 to 9999: the first minute", and of "Throws `IllegalArgumentException` if from or to is
-     * out of range" the one half
-     */
-    private static void fromInRange() {
-        Edges.range("to 10000, from", 0, 9999, Edges.ARGUMENT, EdgesOfMachinesTest::broken,
-                (p, from) -> p.breakdown(0, from, 10000));
-        Edges.range("one minute, from", 0, 9999, Edges.ARGUMENT, EdgesOfMachinesTest::broken,
-                (p, from) -> p.breakdown(0, from, from + 1));
+    /** Promise 4: "- `from`: 0 to 9999: the first minute" */
+    private static void fromFirstMinuteOn() {
         Checks.due("from the first minute 0", Shops.row(5).breakdown(0, 0, 1), 6);
         Checks.due("from the last minute that it needs", Shops.row(5).breakdown(0, 4, 5), 10);
         Checks.due("from the minute behind that", Shops.row(5).breakdown(0, 5, 6), 5);
         Checks.due("from 9999, which it does not need", late(9).breakdown(0, 9999, 10000), 9999);
         Checks.due("from 9999, which it needs", late(10).breakdown(0, 9999, 10000), 10010);
+        Edges.range("one minute, from", 0, 9999, Edges.ARGUMENT, EdgesOfMachinesTest::broken,
+                (p, from) -> p.breakdown(0, from, from + 1));
     }
 
-    /**
-     * Promise 4: "- `to`: from + 1 to 10000: the minute behind the last one", and of "Throws
-     * `IllegalArgumentException` if from or to is out of range" the other half
-     */
-    private static void toInRange() {
-        for (int first : new int[] {0, 1, 5, 9998, 9999}) {
-            Edges.range("from " + first + ", to", first + 1, 10000, Edges.ARGUMENT, EdgesOfMachinesTest::broken,
-                    (p, to) -> p.breakdown(0, first, to));
-        }
+    /** Promise 4: "- `to`: from + 1 to 10000: the minute behind the last one" */
+    private static void toBehindTheLastMinute() {
         Checks.due("to the minute 1", Shops.row(5).breakdown(0, 0, 1), 6);
         Checks.due("to the minute 2", Shops.row(5).breakdown(0, 0, 2), 7);
         Checks.due("to the minute 10000", Shops.row(5).breakdown(0, 0, 10000), 10005);
+        Checks.due("one that is ready in the minute to", Shops.row(5, 5).breakdown(0, 4, 5), 15);
+        for (int first : new int[] {0, 1, 5, 9998, 9999}) {
+            Edges.range("from " + first + ", to", first + 1, 10000, Edges.ARGUMENT, Shops::placed,
+                    (p, to) -> p.breakdown(1, first, to));
+        }
+    }
+
+    /** Promise 4: "Throws `IllegalArgumentException` if from or to is out of range" */
+    private static void fromOrToOutOfRange() {
+        Edges.range("to 10000, from", 0, 9999, Edges.ARGUMENT, EdgesOfMachinesTest::broken,
+                (p, from) -> p.breakdown(0, from, 10000));
+        Edges.range("from 0, to", 1, 10000, Edges.ARGUMENT, EdgesOfMachinesTest::broken,
+                (p, to) -> p.breakdown(0, 0, to));
+        Checks.refused("both", Edges.ARGUMENT, EdgesOfMachinesTest::broken, p -> p.breakdown(0, -1, 10001));
+        Checks.refused("to ahead of from", Edges.ARGUMENT, EdgesOfMachinesTest::broken, p -> p.breakdown(0, 6, 5));
     }
 
     /** Promise 4: "Tells a breakdown of a machine, in place of the one before." */
@@ -255,22 +271,34 @@ public final class EdgesOfMachinesTest {
         Edges.machineNumbers("breakdown", (p, m) -> p.breakdown(m, 0, 1));
     }
 
-    /** Promise 5: "Takes the breakdown of a machine back." and "Returns true if there was one." */
+    /** Promise 5: "Takes the breakdown of a machine back.", that of no other one. */
+    private static void repairTakesBack() {
+        Boreplan plan = Shops.row(5);
+        plan.addMachine();
+        plan.breakdown(0, 0, 3);
+        plan.repair(1);
+        Checks.due("span() when another machine is repaired", plan.span(), 8);
+        plan.repair(0);
+        Checks.due("span() when it is repaired", plan.span(), 5);
+        Checks.due("startOf(0, 0) when it is repaired", plan.startOf(0, 0), 0);
+    }
+
+    /** Promise 5: "Returns true if there was one." */
     private static void repairOnlyIfThereWasOne() {
         Boreplan plan = Shops.row(5);
         plan.addMachine();
         Checks.due("there never was one", plan.repair(0), false);
         plan.breakdown(0, 0, 3);
         Checks.due("on another machine", plan.repair(1), false);
-        Checks.due("it stays there", plan.span(), 8);
         Checks.due("there is one", plan.repair(0), true);
-        Checks.due("it is gone", plan.span(), 5);
         Checks.due("a second time", plan.repair(0), false);
         plan.breakdown(0, 9999, 10000);
         Checks.due("one that meets no operation", plan.repair(0), true);
         plan.breakdown(0, 0, 1);
         Checks.thrownBy(() -> plan.breakdown(0, 0, 0));
         Checks.due("behind one that was refused", plan.repair(0), true);
+        Checks.thrownBy(() -> plan.breakdown(0, 0, 0));
+        Checks.due("none, and one that was refused", plan.repair(0), false);
     }
 
     /** Promise 5: "Throws `IndexOutOfBoundsException` if there is no such machine" */

@@ -17,16 +17,19 @@ public final class EdgesOfPlacingTest {
         rushOnlyIfWaiting();
         rushOnlyWithOperations();
         removeFromAllMachines();
+        spanWithoutAJob();
         removeOfNoJob();
         removeOnlyIfPlaced();
         swapOnNoMachine();
+        swapFromPlaceZero();
         swapOfNoPlace();
         swapOnlyWithoutAWayRound();
         placedFromZeroTo32();
         placedOfNoMachine();
-        placedAtNoPlace();
+        placedAtFromPlaceZero();
         placedAtTenTimesTheJob();
         placedAtNoMachine();
+        placedAtNoPlace();
         Checks.end();
     }
 
@@ -233,21 +236,26 @@ public final class EdgesOfPlacingTest {
         Checks.due("one", plan.rush(0), 1);
     }
 
-    /** Promise 11: "Takes a job off all machines." and "Returns the span then." */
+    /** Promise 11: "Takes a job off all machines." */
     private static void removeFromAllMachines() {
         Boreplan plan = Shops.placedGrid(4, 2);
-        Checks.due("remove(0)", plan.remove(0), alone());
+        plan.remove(0);
         for (int machine = 0; machine < 4; machine++) {
             Checks.due("left on " + machine, Checks.row(plan, machine), "" + (10 + machine));
         }
-        Checks.due("the last job", plan.remove(1), 0);
         Boreplan same = oneMachine(4, 1);
-        Checks.due("all four of one machine", same.remove(0), 3);
-        Checks.due("the row then", Checks.row(same, 0), "10");
+        same.remove(0);
+        Checks.due("all four of one machine", Checks.row(same, 0), "10");
+        same.remove(1);
+        Checks.due("the last one of all", same.placed(0), 0);
     }
 
-    private static int alone() {
-        return Shops.grid(4, 2).place(1);
+    /** Promise 11: "Returns the span then.", down to that of no operations. */
+    private static void spanWithoutAJob() {
+        Boreplan plan = Shops.row(5, 4, 3);
+        Checks.due("remove of the last one", plan.remove(2), 9);
+        Checks.due("remove of the first one", plan.remove(0), 4);
+        Checks.due("remove of the only one", plan.remove(1), 0);
     }
 
     /** Promise 11: "Throws `IndexOutOfBoundsException` if there is no such job" */
@@ -266,19 +274,28 @@ public final class EdgesOfPlacingTest {
         Edges.machineNumbers("swap", (p, m) -> p.swap(m, 0));
     }
 
-    /** Promise 12: "- `place`: from 0", and "if ... the machine has no such place or none behind it" */
-    private static void swapOfNoPlace() {
-        for (int count = 0; count <= 8; count++) {
-            int[] lengths = {9, 8, 7, 6, 5, 4, 3, 2};
-            int[] some = java.util.Arrays.copyOf(lengths, count);
-            Edges.range("place of " + count, 0, count - 2, Edges.INDEX, () -> Shops.row(some), (p, i) -> p.swap(0, i));
-        }
+    /** Promise 12: "- `place`: from 0" */
+    private static void swapFromPlaceZero() {
         Boreplan plan = Shops.row(5, 4, 3);
         plan.swap(0, 1);
         Checks.due("the last place that has one behind it", Checks.row(plan, 0), "0 20 10");
         plan.swap(0, 0);
-        Checks.due("the first place", Checks.row(plan, 0), "20 0 10");
+        Checks.due("the place 0", Checks.row(plan, 0), "20 0 10");
         Checks.due("its start", plan.startOf(2, 0), 0);
+        Checks.due("the place -1", Checks.thrownBy(() -> plan.swap(0, -1)), "IndexOutOfBoundsException");
+    }
+
+    /** Promise 12: "or the machine has no such place or none behind it" */
+    private static void swapOfNoPlace() {
+        int[] lengths = {9, 8, 7, 6, 5, 4, 3, 2};
+        for (int count = 0; count <= 8; count++) {
+            int[] some = java.util.Arrays.copyOf(lengths, count);
+            Edges.range("place of " + count, 0, count - 2, Edges.INDEX, () -> Shops.row(some), (p, i) -> p.swap(0, i));
+            int last = count - 1;
+            Checks.refused("the last place of " + count + ", none behind it", Edges.INDEX, () -> Shops.row(some),
+                    p -> p.swap(0, last));
+            Checks.refused("no such place of " + count, Edges.INDEX, () -> Shops.row(some), p -> p.swap(0, last + 1));
+        }
     }
 
     /** Promise 12: "Throws `IllegalStateException` if the order would have a way round" */
@@ -303,14 +320,16 @@ public final class EdgesOfPlacingTest {
         Edges.machineNumbers("placed", (p, m) -> p.placed(m));
     }
 
-    /** Promise 14: "- `place`: from 0", and "Throws `IndexOutOfBoundsException` if there is no such ... place" */
-    private static void placedAtNoPlace() {
-        for (int count = 0; count <= 8; count++) {
-            int jobs = count;
-            Edges.range("place of " + 4 * count, 0, 4 * count - 1, Edges.INDEX, () -> Shops.chain(jobs),
-                    (p, i) -> p.placedAt(0, i));
+    /** Promise 14: "- `place`: from 0" */
+    private static void placedAtFromPlaceZero() {
+        Boreplan plan = Shops.row(5, 4, 3);
+        for (int place = 0; place < 3; place++) {
+            Checks.due("placedAt(0, " + place + ")", plan.placedAt(0, place), 10 * place);
         }
-        Edges.range("place of another machine", 0, -1, Edges.INDEX, () -> Shops.chain(8), (p, i) -> p.placedAt(1, i));
+        for (int place : new int[] {-1, 3}) {
+            Checks.due("the place " + place, Checks.thrownBy(() -> plan.placedAt(0, place)),
+                    "IndexOutOfBoundsException");
+        }
     }
 
     /** Promise 14: "Returns 10 times the job and the number of the operation, together.", from 0 to 73. */
@@ -324,5 +343,15 @@ public final class EdgesOfPlacingTest {
     /** Promise 14: "Throws `IndexOutOfBoundsException` if there is no such machine" */
     private static void placedAtNoMachine() {
         Edges.machineNumbers("placedAt", (p, m) -> p.placedAt(m, 1));
+    }
+
+    /** Promise 14: "Throws `IndexOutOfBoundsException` if there is no such ... place" */
+    private static void placedAtNoPlace() {
+        for (int count = 0; count <= 8; count++) {
+            int jobs = count;
+            Edges.range("place of " + 4 * count, 0, 4 * count - 1, Edges.INDEX, () -> Shops.chain(jobs),
+                    (p, i) -> p.placedAt(0, i));
+        }
+        Edges.range("place of another machine", 0, -1, Edges.INDEX, () -> Shops.chain(8), (p, i) -> p.placedAt(1, i));
     }
 }

@@ -16,8 +16,9 @@ public final class EdgesOfSlackAndPathTest {
         pathGoesByTheMachineOtherwise();
         pathBeginsOtherwise();
         noCriticalsIfNoneArePlaced();
-        criticalAtNoPlace();
         criticalAtTheFirstOneFirst();
+        criticalAtTenTimesTheJob();
+        criticalAtNoPlace();
         Checks.end();
     }
 
@@ -262,7 +263,28 @@ public final class EdgesOfSlackAndPathTest {
         Checks.due("all of a chain", Shops.chain(8).criticals(), 32);
     }
 
-    /** Promise 21: "- `place`: from 0", and "Throws `IndexOutOfBoundsException` if there is no such place" */
+    /** Promise 21: "- `place`: from 0, the first one first" */
+    private static void criticalAtTheFirstOneFirst() {
+        Boreplan plan = Shops.placed();
+        int[] path = {0, 1, 10, 11};
+        for (int place = 0; place < 4; place++) {
+            Checks.due("criticalAt(" + place + ")", plan.criticalAt(place), path[place]);
+        }
+        for (int place : new int[] {-1, 4}) {
+            Checks.due("the place " + place, Checks.thrownBy(() -> plan.criticalAt(place)),
+                    "IndexOutOfBoundsException");
+        }
+    }
+
+    /** Promise 21: "Returns 10 times the job and the number of the operation, together.", from 0 to 73. */
+    private static void criticalAtTenTimesTheJob() {
+        Boreplan plan = Shops.chain(8);
+        for (int i = 0; i < 32; i++) {
+            Checks.due("criticalAt(" + i + ")", plan.criticalAt(i), 10 * (i / 4) + i % 4);
+        }
+    }
+
+    /** Promise 21: "Throws `IndexOutOfBoundsException` if there is no such place" */
     private static void criticalAtNoPlace() {
         for (int count = 0; count <= 8; count++) {
             int jobs = count;
@@ -273,22 +295,10 @@ public final class EdgesOfSlackAndPathTest {
                 (p, i) -> p.criticalAt(i));
     }
 
-    /** Two operations and, behind a breakdown, a third one. */
+    /** Two operations and, behind a breakdown, a third one, with which the path begins. */
     private static Boreplan broken() {
         Boreplan plan = Shops.row(5, 5, 5);
         plan.breakdown(0, 10, 11);
         return plan;
-    }
-
-    /**
-     * Promise 21: "from 0, the first one first", and "Returns 10 times the job and the number of the operation,
-     * together.", from 0 to 73
-     */
-    private static void criticalAtTheFirstOneFirst() {
-        Boreplan plan = Shops.chain(8);
-        for (int i = 0; i < 32; i++) {
-            Checks.due("criticalAt(" + i + ")", plan.criticalAt(i), 10 * (i / 4) + i % 4);
-        }
-        Checks.due("the only one", broken().criticalAt(0), 20);
     }
 }
