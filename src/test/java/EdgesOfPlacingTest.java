@@ -11,6 +11,7 @@ public final class EdgesOfPlacingTest {
         rushWithoutAWayRound();
         rushBySpan();
         rushByItsOwnStart();
+        rushBySpanAheadOfItsStart();
         rushToTheFirstPlace();
         rushAtTheEnds();
         rushOfNoJob();
@@ -171,6 +172,26 @@ public final class EdgesOfPlacingTest {
             Checks.due("the span is the same", plan.rush(2), 100);
             Checks.due("the start with " + minutes, plan.startOf(2, 0), Math.min(minutes, 5));
             Checks.due("the row with " + minutes, Checks.row(plan, 0), minutes <= 5 ? "20 10" : "10 20");
+        }
+    }
+
+    /**
+     * Promise 10: "of several such" are those of the least span, however soon it starts elsewhere: at the first place it
+     * starts at 6 and the span is 19, at the second one it starts at 5 and the span is 18, 19 or 20.
+     */
+    private static void rushBySpanAheadOfItsStart() {
+        String[] rows = {"0 20 10", "0 20 10", "20 0 10"};
+        for (int minutes = 5; minutes <= 7; minutes++) {
+            Boreplan plan = Shops.machines(1);
+            plan.setSetup(0, 1, 6);
+            plan.setSetup(1, 3, minutes);
+            plan.setSetup(3, 1, 60);
+            Shops.single(plan, 0, 5, 2);
+            Shops.single(plan, 0, 3, 3);
+            plan.addJob(0);
+            plan.addOperation(2, 0, 5, 1, 0);
+            Checks.due("rush(2) with " + minutes, plan.rush(2), Math.min(19, 13 + minutes));
+            Checks.due("the row with " + minutes, Checks.row(plan, 0), rows[minutes - 5]);
         }
     }
 
